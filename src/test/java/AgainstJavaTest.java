@@ -365,7 +365,7 @@ public final class AgainstJavaTest {
         int index = some(9);
         int value = someValue();
         String told = "run " + run + ": " + type + " " + other + " " + object + " " + second + " " + index + " " + value;
-        switch (below(22)) {
+        switch (below(23)) {
             case 0: CHECKS.due("arrayOf " + told, x.arrayOf(type), o.arrayOf(type)); break;
             case 1: CHECKS.due("component " + told, x.component(type), o.component(type)); break;
             case 2: CHECKS.due("dimensions " + told, x.dimensions(type), o.dimensions(type)); break;
@@ -386,12 +386,14 @@ public final class AgainstJavaTest {
             case 18: CHECKS.due("get " + told, x.get(object, index), o.get(object, index)); break;
             case 19: CHECKS.due("length " + told, x.length(object), o.length(object)); break;
             case 20: CHECKS.due("copy " + told, x.copy(object), o.copy(object)); break;
-            default: CHECKS.due("label " + told, x.label(object), o.label(object)); break;
+            case 21: CHECKS.due("label " + told, x.label(object), o.label(object)); break;
+            default: compareCount(x, o, told); break;
         }
-        if (below(20) == 0) {
-            int what = some(3);
-            CHECKS.due("count " + told, x.count(what), o.count(what));
-        }
+    }
+
+    private static void compareCount(ClassObjectMirror x, Oracle o, String told) {
+        int what = some(3);
+        CHECKS.due("count " + what + " " + told, x.count(what), o.count(what));
     }
 
     private static void compareText(ClassObjectMirror x, Oracle o, int type, String told) {
